@@ -60,4 +60,16 @@ final class Check {
     x.read();
     return x;
   }
+
+  /** All that the sentence answers, in eleven calls: "fails 0 holds 00111 ways 0 0 1 3 6". */
+  static String answers(HeadCount x) {
+    StringBuilder holds = new StringBuilder();
+    StringBuilder ways = new StringBuilder();
+    for (int n = 0; n <= 4; n++) {
+      int size = n;
+      holds.append(answer(() -> x.holds(size)).replace("true", "1").replace("false", "0"));
+      ways.append(" ").append(answer(() -> x.ways(size)));
+    }
+    return "fails " + answer(x::fails) + " holds " + holds + " ways" + ways;
+  }
 }

@@ -28,7 +28,7 @@ final class DearTest {
 
   private static void readOften() {
     HeadCount x = new HeadCount();
-    for (int round = 0; round < 28; round++) {
+    for (int round = 0; round < 26; round++) {
       Check.put(x, DEAR);
       Check.due("dear: read", 4, x::read);
       Check.due("dear: fails after read", -1, x::fails);
@@ -41,9 +41,9 @@ final class DearTest {
 
   private static void makesLittle() {
     HeadCount x = new HeadCount();
-    quietRun(x, 6);
+    quietRun(x, 5);
     long before = allocated();
-    quietRun(x, 24);
+    quietRun(x, 22);
     long bytes = allocated() - before;
     // the texts that this test cuts are counted too
     Check.due("made at most 200000 bytes (" + bytes + ")", true, () -> bytes <= 200000);

@@ -52,6 +52,10 @@ final class CallBoundsTest {
     Check.due("the one: length", 2, one::length);
     Check.due("the one: the sentence", THREE, () -> Check.answers(one));
     Check.due("the other: the sentence", Untouched.ANSWERS, () -> Check.answers(other));
+    Check.put(other, "EX#X");
+    Check.put(one, "4");
+    Check.due("the one: read", 0, one::read);
+    Check.due("the one: the new sentence", 4, one::fails);
   }
 
   /** Promise 2: "up to eight characters ...: the bytes of the long, from the lowest on, but for those that are 0" */
@@ -189,14 +193,19 @@ final class CallBoundsTest {
       object.refusesRead("four A and E begun");
       object.endsAs("17)", 4, "fails -1 holds 11111 ways 17 17 17 17 17");
     }
-    for (String text : new String[] {"n", "n<3)", "0:n", "i=1", "AiAjAkAXAY n=n", "!".repeat(13) + "n=n", "n".repeat(120)}) {
+    String[] never = {
+      "n", "n<3)", "(n<3))", "n<3]", "[0<1", "[(0<1]", "#(1<3", "#1)<3", "0:n", "i=1", "AiAjAkAXAY n=n",
+      "!".repeat(13) + "n=n", "n".repeat(120),
+    };
+    for (String text : never) {
       Bounds.isNot(text);
     }
   }
 
   /** What was met in a refused text (A and E, variables, depth) does not count in the next. */
   private static void readForgetsWhatItRefused() {
-    for (String refused : new String[] {"AiAjAkEX", "AiAXAj(i=1", "EXEYEZEi(#X=1&", "!".repeat(14), "EX(((((((((((", "AiAjAkAiAj"}) {
+    String[] texts = {"AiAjAkEX", "AiAXAj(i=1", "EXEYEZEi(#X=1&", "!".repeat(14), "EX(((((((((((", "AiAjAkAiAj"};
+    for (String refused : texts) {
       for (Untouched object : Untouched.ofEachKind(refused)) {
         object.refusesRead(refused);
         Check.due("wipe of " + refused, refused.length(), object.x::wipe);

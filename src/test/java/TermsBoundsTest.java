@@ -136,13 +136,15 @@ final class TermsBoundsTest {
 
   /** "Each variable that stands in a part or a single stands within a one that begins with A or E and this variable." */
   private static void variablesStandWithinTheirOne() {
+    String[] numberUses = {"@=1", "1=@", "-@<1", "2*@<1", "n+@=1", "n-3*@=1", "2:@", "2:n-@", "!@=1", "(@=1)"};
+    String[] setUses = {"#@=1", "1<#-@", "2*#(@)=1", "2:#@", "[@=1]", "[0<@]", "[0+@=1]", "[1*-@=0]", "[(1+@)<1]"};
     for (String v : new String[] {"i", "j", "k"}) {
-      for (String use : new String[] {"@=1", "1=@", "-@<1", "2*@<1", "n+@=1", "n-3*@=1", "2:@", "2:n-@", "!@=1", "(@=1)"}) {
+      for (String use : numberUses) {
         bindingOf(v, use.replace("@", v));
       }
     }
     for (String v : new String[] {"X", "Y", "Z"}) {
-      for (String use : new String[] {"#@=1", "1<#-@", "2*#(@)=1", "2:#@", "[@=1]", "[0<@]", "[0+@=1]", "[1*-@=0]", "[(1+@)<1]"}) {
+      for (String use : setUses) {
         bindingOf(v, use.replace("@", v));
       }
     }
@@ -277,6 +279,8 @@ final class TermsBoundsTest {
     Bounds.is(0, not + "-n=-1-2*n");
     Bounds.isNot("!" + not + "-n=-1-2*n");
     Bounds.is(0, not + "[0+1*0<1]");
+    Bounds.is(0, "!".repeat(11) + "-#1=-#0-2*#1");
+    Bounds.isNot(not + "-#1=-#0-2*#1");
     Bounds.is(0, not + "2:-n-3");
     Bounds.is(0, not + "n<1|" + not + "n<2&" + not + "n<3");
     Bounds.is(0, "n<1" + "|n<3&n<4".repeat(13));
@@ -332,6 +336,8 @@ final class TermsBoundsTest {
     Bounds.says("[-0=1]&[-1=0]", "11111");
     Bounds.says("[0+1=1]&[0*1=0]", "11111");
     Bounds.says("[0+0=0]&[1*1=1]", "11111");
+    Bounds.says("[1+1=1]&[0*0=0]", "11111");
+    Bounds.says("[1+1+0=1]&[0*1*1=0]", "11111");
     Bounds.says("[1<0]", "10000");
     for (String v : new String[] {"X", "Y", "Z"}) {
       Bounds.says("E@[@=0]".replace("@", v), "11111", "1 1 1 1 1");

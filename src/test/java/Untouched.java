@@ -31,9 +31,23 @@ final class Untouched {
     return asked;
   }
 
+  /** The same, but not the object's first sentence, so that it may be held where an earlier one was. */
+  static Untouched readBefore(int sentences, String text) {
+    HeadCount x = new HeadCount();
+    for (int read = 0; read < sentences; read++) {
+      Check.put(x, "AX(#X<1|[X=1]&2:n)");
+      x.read();
+    }
+    Check.put(x, SENTENCE);
+    x.read();
+    return new Untouched(x, ANSWERS).with(text);
+  }
+
   /** One of each kind, with the same text. */
   static Untouched[] ofEachKind(String text) {
-    return new Untouched[] {withoutSentence(text), withSentence(text), askedBefore(text)};
+    return new Untouched[] {
+      withoutSentence(text), withSentence(text), askedBefore(text), readBefore(1, text), readBefore(2, text),
+    };
   }
 
   Untouched with(String more) {
